@@ -467,11 +467,7 @@ public final class WhiteWanted {
 
         void clear() {
             Arrays.fill(cells, NONE);
-            Arrays.fill(kinds, 0);
-            Arrays.fill(worths, 0);
             taken = 0;
-            size = 0;
-            spot = 0;
         }
 
         void copy(Table other) {

@@ -6,6 +6,7 @@ public final class WholeTest {
 
     public static void main(String[] args) {
         images();
+        imageOfSeen();
         counts();
         digests();
         for (int seed = 0; seed < 300; seed++) anyCalls(new Random(seed));
@@ -54,6 +55,19 @@ public final class WholeTest {
         check.due("another table since", x.restore(), Check.STATE);
         check.due("image of it", x.image(), 0);
         check.due("restore of it", x.restore(), 0);
+    }
+
+    private static void imageOfSeen() {
+        WhiteWanted x = Check.table("20;b122,b733");
+        x.see(1, 2, 9, 23);
+        check.due("heavy", x.ball(1, 3), 2);
+        x.image();
+        x.forget();
+        x.see(2, 5, 1, 1);
+        check.due("seen of ball 2", x.ball(2, 3), 0);
+        x.restore();
+        check.due("heavy again", x.ball(1, 3), 2);
+        check.due("nothing of ball 2", x.ball(2, 3), 31);
     }
 
     private static void counts() {
