@@ -239,10 +239,13 @@ public final class WhiteWanted {
         return h;
     }
 
+    // Not by ball(): that would stand open one call too many above a stroke (LANGUAGE.md 11).
     private long digestOfBalls(long start) {
         long h = start;
         for (int ball = 0; ball <= game.table.size; ball++) {
-            for (int what = 0; what <= 2; what++) h = 31 * h + ball(ball, what);
+            h = 31 * h + game.table.kindOf(ball);
+            h = 31 * h + game.table.worthOf(ball);
+            h = 31 * h + game.table.cellOf(ball);
         }
         h = 31 * h + guesser.possibleKinds(game, 1);
         return 31 * h + guesser.tellingDirection(game, 1);

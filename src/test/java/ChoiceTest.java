@@ -113,8 +113,9 @@ public final class ChoiceTest {
 
     private static long cellsByTrial(String text, int ball) {
         long cells = 0;
-        WhiteWanted x = Check.table(text);
         for (int cell = 0; cell < 45; cell++) {
+            // one for each cell: an object answers 512 calls
+            WhiteWanted x = Check.table(text);
             if (x.put(0, cell) < 0) continue;
             for (int direction = 0; direction < 8; direction++) {
                 for (int strength = 1; strength <= 9; strength++) {

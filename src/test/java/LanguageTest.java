@@ -26,7 +26,7 @@ public final class LanguageTest {
     }
 
     private static void isSo(String what, boolean so) {
-        check.due(what, so ? 1 : 0, 1);
+        check.isSo(what, so);
     }
 
     private static String signature(Method method) {
