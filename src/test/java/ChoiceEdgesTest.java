@@ -13,6 +13,7 @@ public final class ChoiceEdgesTest {
         planOfBoth();
         planOfLikeOnes();
         planBySpinOfTheFirstAlone();
+        planByTheStrengthBehindIt();
         planOfFouls();
         planRefused();
         planEightTimes();
@@ -22,6 +23,7 @@ public final class ChoiceEdgesTest {
         safeRefused();
         safeEightTimes();
         plansOfAnotherTable();
+        choicesOneBehindTheOther();
         wantedCells();
         wantedFromFreeCellsAlone();
         wantedWithoutSpin();
@@ -100,6 +102,7 @@ public final class ChoiceEdgesTest {
 
     /** PLAN: "of like ones the first" */
     private static void planOfLikeOnes() {
+        plan("24;b714", 107, 0, 1, 0);
         plan("22;b111,b131", 102, 5, 2, 0);
         plan("22;b113,b111", 102, 1, 2, 0);
     }
@@ -110,6 +113,14 @@ public final class ChoiceEdgesTest {
         plan("22;b711,b733,b713", 121, 3, 5, 2);
         // had the one behind it spin, a touch of strength 1 would do as well, and be the first
         plan("22;b711,b333", 110, 3, 2, 0);
+        // the same of one that goes on, and pots what it left
+        plan("33;b722,b111", 108, 7, 3, 0);
+    }
+
+    /** "of STRENGTH 3, 6, or 9": a stone in the middle is potted by 9 alone. */
+    private static void planByTheStrengthBehindIt() {
+        best("33;s722", 107, 7, 9, 0);
+        plan("33;s722", 107, 7, 1, 0);
     }
 
     /** PLAN where all are FOULS: the first, and 4 less for each. */
@@ -156,6 +167,7 @@ public final class ChoiceEdgesTest {
     private static void safeOfLikeOnes() {
         // whatever is hit, the reply can hit again, and pots nothing: the first stroke that is no foul
         safe("22;b123", 100, 2, 1, 0);
+        safe("22;b112", 100, 0, 1, 0);
     }
 
     /** "leaves a TABLE on which the best one .. brings least" */
@@ -220,6 +232,22 @@ public final class ChoiceEdgesTest {
         check.due("safe on another table", x.safe(0), Check.STATE);
         check.due("plans done", x.count(12), 8);
         check.due("safes done", x.count(13), 8);
+    }
+
+    /** BEST, PLAN and SAFE are each of the TABLE as it is, whatever was asked ahead. */
+    private static void choicesOneBehindTheOther() {
+        WhiteWanted x = Check.table("22;b711");
+        for (int round = 0; round < 4; round++) {
+            check.due("best", x.best(2), 2);
+            check.due("plan", x.plan(2), 1);
+            check.due("safe", x.safe(2), 2);
+            check.due("plan behind safe", x.plan(0), 107);
+            check.due("best behind plan", x.best(2), 2);
+            check.due("safe behind best", x.safe(0), 96);
+        }
+        x.lift(1);
+        check.due("best of what is left", x.best(0), 96);
+        check.due("and which it is", x.best(1), 0);
     }
 
     private static void wanted(String text, int ball, int... cells) {

@@ -15,8 +15,10 @@ public final class SeenEdgesTest {
         kindsByEachOfSix();
         kindsAllElseAsItIs();
         kindsOfOneThatIsOff();
+        kindsWithoutSpin();
         tryOfLikeOnes();
         tryThatTellsMost();
+        tryOfStrengthSix();
         tryOfNone();
         seenThatNamesNothing();
         seenOutside();
@@ -123,11 +125,21 @@ public final class SeenEdgesTest {
         check.due("no kind", x.ball(1, 3), 0);
     }
 
+    /** "that by a STROKE without SPIN": the white does not come back to the one behind it. */
+    private static void kindsWithoutSpin() {
+        WhiteWanted x = Check.table("24;d125,b123");
+        check.due("with spin it is hit", x.would(2, 9, 2, 11), 18);
+        x.see(2, 2, 9, 21);
+        check.due("without it lies", x.ball(2, 3), 31);
+        check.due("and no stroke without tells of it but in direction 6", x.ball(2, 4), 6);
+    }
+
     /** TRY: "of like ones the least" */
     private static void tryOfLikeOnes() {
         // all but 2 and, off the cushion, 6 miss it
         check.due("2 of 2 and 6", Check.table("20;b122").ball(1, 4), 2);
         WhiteWanted one = Check.table("20;b122");
+        check.due("ahead of it", one.ball(1, 4), 2);
         one.see(1, 2, 9, 23);
         check.due("one kind left", one.ball(1, 4), 0);
         WhiteWanted two = Check.table("20;b122");
@@ -146,6 +158,23 @@ public final class SeenEdgesTest {
         y.see(1, 2, 4, 26);
         check.due("plain or dead, or a light one", y.ball(1, 3), 1 | 8 | 4);
         check.due("2 tells the dead one, off the cushion", y.ball(1, 4), 2);
+        WhiteWanted z = Check.table("25;b127");
+        z.see(1, 2, 3, 26);
+        check.due("not heavy, no stone", z.ball(1, 3), 1 | 4 | 8);
+        z.see(1, 2, 4, 26);
+        check.due("plain or dead", z.ball(1, 3), 1 | 8);
+        check.due("2 tells them apart", z.ball(1, 4), 2);
+        z.forget();
+        z.see(1, 2, 4, 25);
+        z.see(1, 2, 9, 26);
+        check.due("a stone", z.ball(1, 3), 16);
+        check.due("nothing more to tell", z.ball(1, 4), 0);
+    }
+
+    /** TRY: "of STRENGTH 6", with which it is just HIT in the sixth CELL, and not in the seventh. */
+    private static void tryOfStrengthSix() {
+        check.due("with nothing, which tells a light one", Check.table("20;b126").ball(1, 4), 2);
+        check.due("it does not come there", Check.table("20;b127").ball(1, 4), 0);
     }
 
     /** TRY: "none, if there are none." */
@@ -235,6 +264,9 @@ public final class SeenEdgesTest {
         frames("24;b714", 1, 0, 1007, 0, 654583775);
         frames("24;b714", 2, 0, 1003, 0, 1109335178);
         frames("24;b714", 3, 0, 999, 0, 794471793);
+        // a heavy one from two cells: by no strength less than 4; the white goes on by 1, and hits the other then
+        frames("34;h714", 1, 0, 1007, 0, 654583775);
+        frames("34;h714,b123", 2, 0, 1007, 1, 1109335178);
         // of 1 it is (6, 8, 0)
         frames("24;b714", 1, 1, 996, 1, 662824084);
         frames("22;b121", 1, 1, 1000, 1, 662824084);

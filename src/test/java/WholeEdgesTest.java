@@ -25,6 +25,7 @@ public final class WholeEdgesTest {
         countsOfThePage();
         digestOfNoTable();
         digestOfATable();
+        digestInOrder();
         digestOfThePage();
         digestChangesNothing();
         callsUpToTheLast();
@@ -284,6 +285,23 @@ public final class WholeEdgesTest {
         for (int number : numbers) h = 31 * h + number;
         check.due("these numbers", h, -3887736472002311512L);
         check.tells("digest", () -> Check.table("22;b711"), WhiteWanted::digest, h);
+    }
+
+    /** "in order": 46 numbers of an object in which something has been, worked out by hand. */
+    private static void digestInOrder() {
+        WhiteWanted x = Check.table("20;h322,b733");
+        x.stroke(6, 1, 0);
+        x.see(1, 2, 3, 20);
+        x.plan(0);
+        x.safe(0);
+        x.safe(0);
+        Check.type(x, "2;~");
+        int[] numbers = {0, 0, 18, 1, 3, 20, 0, 7, 30, 18, 2, -1, -1, 1, -1, -1, -1, -1, -1, 100, 2, 2, 0,
+            100, 22, 0, 0, 8, 2, 50, 59, 126, 2, 2, 10, 996, 1, 1, 1, 18, 18, 1, 3, 1, 1, 2};
+        long h = 1097;
+        for (int number : numbers) h = 31 * h + number;
+        check.due("digest in order", x.digest(), h);
+        check.due("digest again", x.digest(), h);
     }
 
     /** "letters of THE PAGE", behind a TABLE's numbers and ahead of the counts. */
