@@ -66,8 +66,24 @@ public final class LanguageTest {
                 int m = field.getModifiers();
                 isSo(field + " is no static state", !Modifier.isStatic(m) || Modifier.isFinal(m));
             }
-            for (Method method : inner.getDeclaredMethods()) isSo(method + " parameters", method.getParameterCount() <= 7);
+            isSo(inner + " has some twenty fields at most", inner.getDeclaredFields().length <= 20);
+            for (Method method : inner.getDeclaredMethods()) {
+                isSo(method + " parameters", method.getParameterCount() <= 7);
+                boolean named = FACE.stream().anyMatch(face -> face.contains(" " + method.getName() + "("));
+                isSo(method + " has a name of its own", !Modifier.isPrivate(method.getModifiers()) || !named);
+            }
         }
+    }
+
+    /** From a line that opens a method to the one that closes it, by how far they stand in. */
+    private static void lengths(String text) {
+        Matcher methods = Pattern.compile("(?m)^( {4}| {8})(?! )[^;=\\n]*\\) \\{\\n((?s:.*?))\\n\\1\\}$").matcher(text);
+        int found = 0;
+        for (; methods.find(); found++) {
+            long lines = methods.group(2).lines().count();
+            isSo("short: " + methods.group().lines().findFirst().orElse(""), lines <= 60);
+        }
+        isSo("methods are found", found > 80);
     }
 
     private static void words() throws Exception {
@@ -78,6 +94,7 @@ public final class LanguageTest {
         while (out.find()) isSo("no " + out.group(), false);
         Matcher imports = Pattern.compile("import ([\\w.]+);").matcher(code);
         while (imports.find()) isSo("import " + imports.group(1), Set.of("java.util.Arrays").contains(imports.group(1)));
+        lengths(text);
         isSo("plain signs", text.chars().allMatch(sign -> sign < 128));
     }
 }

@@ -4,7 +4,7 @@ import java.util.List;
 /** Strokes worked out a second time, by hand as it were: rows, columns and signs, and none of the class's own ways. */
 final class PaperTable {
     static final class Piece {
-        final char kind;
+        char kind;
         final int worth;
         int row, column;
         boolean on = true;
@@ -31,6 +31,43 @@ final class PaperTable {
         for (String part : text.substring(3).split(",")) {
             pieces.add(new Piece(part.charAt(0), part.charAt(1) - '0', part.charAt(2) - '0', part.charAt(3) - '0'));
         }
+    }
+
+    private PaperTable(PaperTable other) {
+        spotRow = other.spotRow;
+        spotColumn = other.spotColumn;
+        for (Piece piece : other.pieces) {
+            Piece twin = new Piece(piece.kind, piece.worth, piece.row, piece.column);
+            twin.on = piece.on;
+            pieces.add(twin);
+        }
+    }
+
+    PaperTable copy() {
+        return new PaperTable(this);
+    }
+
+    /** The table as it would be behind a stroke, with what it brought; this one stays as it is. */
+    PaperTable behind(int direction, int strength, int spin) {
+        PaperTable next = copy();
+        next.stroke(direction, strength, spin);
+        return next;
+    }
+
+    int spot() {
+        return 9 * spotRow + spotColumn;
+    }
+
+    int ballIn(int cell) {
+        return pieces.indexOf(at(cell / 9, cell % 9));
+    }
+
+    void lay(int ball, int cell) {
+        Piece piece = pieces.get(ball);
+        piece.on = cell >= 0;
+        if (!piece.on) return;
+        piece.row = cell / 9;
+        piece.column = cell % 9;
     }
 
     int cell(int ball) {
